@@ -615,7 +615,7 @@ public final class CommitPrefixes {
         }
 
         int letter(int i) {
-            return has(i) ? (int) elements[i] : 0;
+            return i >= 0 && i < size ? (int) elements[i] : 0;
         }
 
         boolean isOfSort(int as) {
@@ -1118,7 +1118,8 @@ public final class CommitPrefixes {
         }
 
         private void turnTo(int newState, int newTimer) {
-            enter(newState, newTimer);
+            state = newState;
+            timer = newTimer;
             counted = 0;
         }
 
@@ -1170,8 +1171,11 @@ public final class CommitPrefixes {
         void receive(Run run, int which, int sender) {
             switch (which) {
                 case MSG_PREPARE:
-                    if (state == INIT) {
-                        castVote(run);
+                    if (state == INIT && run.setup.votesYes(number)) {
+                        sayYes(run);
+                    } else if (state == INIT) {
+                        settle(MSG_ABORT);
+                        run.send(MSG_NO, number, 1);
                     }
                     break;
                 case MSG_PRE:
@@ -1179,10 +1183,20 @@ public final class CommitPrefixes {
                     break;
                 case MSG_COMMIT:
                 case MSG_ABORT:
-                    hearDecision(run, which);
+                    if (!isSettled()) {
+                        settle(which);
+                    }
+                    if (which == MSG_COMMIT || !run.presumed) {
+                        run.send(MSG_ACK, number, 1);
+                    }
                     break;
                 case MSG_ASK:
-                    hearAsk(run, sender);
+                    if (state == INIT) {
+                        settle(MSG_ABORT);
+                    }
+                    if (isSettled()) {
+                        run.send(state == COMMITTED ? MSG_COMMIT : MSG_ABORT, number, 1 << sender);
+                    }
                     break;
                 default:
                     break;
@@ -1200,15 +1214,10 @@ public final class CommitPrefixes {
             }
         }
 
-        private void castVote(Run run) {
-            if (run.setup.votesYes(number)) {
-                note(REC_READY);
-                enter(READY, run.waitEnd());
-                run.send(MSG_YES, number, 1);
-            } else {
-                settle(MSG_ABORT);
-                run.send(MSG_NO, number, 1);
-            }
+        private void sayYes(Run run) {
+            note(REC_READY);
+            enter(READY, run.waitEnd());
+            run.send(MSG_YES, number, 1);
         }
 
         private void hearPre(Run run) {
@@ -1218,24 +1227,6 @@ public final class CommitPrefixes {
                 run.send(MSG_PACK, number, 1);
             } else if (state == PRE) {
                 run.send(MSG_PACK, number, 1);
-            }
-        }
-
-        private void hearDecision(Run run, int which) {
-            if (!isSettled()) {
-                settle(which);
-            }
-            if (which == MSG_COMMIT || !run.presumed) {
-                run.send(MSG_ACK, number, 1);
-            }
-        }
-
-        private void hearAsk(Run run, int sender) {
-            if (state == INIT) {
-                settle(MSG_ABORT);
-            }
-            if (isSettled()) {
-                run.send(state == COMMITTED ? MSG_COMMIT : MSG_ABORT, number, 1 << sender);
             }
         }
 
