@@ -485,19 +485,51 @@ public final class OutcomeBoundariesTest extends Sentence {
       due("states", states(x, 1, 0, 60), first);
       due("log", log(x, 1), "234");
     });
-    test("WHAT COMES OF IT", "each change makes a new RUN: harm, block and spared too", () -> {
+    test("WHAT COMES OF IT", "each change makes a new RUN: bits come and go", () -> {
       CommitPrefixes x = of("sites 2;phases 3;down 0 3 60");
       due("harm", x.harm(0), 48);
-      x.down(0, -1, 0);
-      due("harm", x.harm(0) & 48, 48);
+      due("block", x.block(0), 0);
       x.put(1, 2);
       due("harm", x.harm(0), 0);
+      x.down(0, 2, 60);
+      due("block", x.block(0) >> 2 & 3, 3);
+      x.down(0, -1, 0);
       due("block", x.block(0), 0);
+      x.put(1, 3);
       x.down(0, 3, 60);
-      due("block", x.block(0) != 0 ? 1 : 0, 1);
+      due("harm", x.harm(0), 48);
+    });
+    test("WHAT COMES OF IT", "each change makes a new RUN: put, vote, lose, down, drawn, restore", () -> {
+      CommitPrefixes x = fresh();
+      x.image();
+      due("sent", x.sent(60), 12);
+      x.put(0, 1);
+      due("put", x.sent(60), 4);
+      x.vote(1, false);
+      due("vote", x.decided(60, 0), 2);
+      x.lose(0, true);
+      due("lose", x.message(0, 4), 1);
+      x.lose(0, false);
+      due("lose", x.message(0, 4), 0);
+      x.down(1, 1, 2);
+      due("down", x.message(0, 4), 2);
+      x.down(1, -1, 0);
+      due("down", x.message(0, 4), 0);
+      x.seed(0);
+      x.drawn(1);
+      due("drawn", x.message(0, 4), 1);
+      x.restore();
+      due("restore", x.sent(60), 12);
+    });
+    test("WHAT COMES OF IT", "each change makes a new RUN: spared", () -> {
+      CommitPrefixes x = fresh();
       due("spared", x.spared(), 0);
       x.vote(1, false);
-      due("spared", x.spared() != 0 ? 1 : 0, 1);
+      due("spared", x.spared(), 3);
+      x.put(0, 1);
+      due("spared", x.spared(), 1);
+      x.vote(1, true);
+      due("spared", x.spared(), 0);
     });
   }
 }

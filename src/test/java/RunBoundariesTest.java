@@ -709,6 +709,15 @@ public final class RunBoundariesTest extends Sentence {
       CommitPrefixes x = of("sites 1;presume");
       due("WAITING", x.decided(1, 0), 0);
     });
+    test(17, "DECIDED: PRESUMED, ENDED ahead and not UP: it isn't ENDED then: 0", () -> {
+      CommitPrefixes x = of("sites 1;no 1;presume;down 0 9 20");
+      due("ahead", x.decided(8, 0), 2);
+      due("away", x.decided(9, 0), 0);
+      due("away", x.decided(19, 0), 0);
+      due("recovered", x.decided(20, 0), 2);
+    });
+    test(17, "DECIDED: ENDED with a COMMIT and not UP: its LOG has it", () ->
+        due("decided", of("sites 1;presume;down 0 9 20").decided(9, 0), 1));
     test(17, "DECIDED: PRESUMED: of a PARTICIPANT by its LOG alone", () -> {
       CommitPrefixes x = of("sites 2;no 2;presume;lose 4;lose 8;lose 9");
       due("1 is READY", x.decided(7, 1), 0);

@@ -306,6 +306,15 @@ public final class TextBoundariesTest extends Sentence {
       due("1 is away from 2", x.state(2, 1), 9);
       due("1 is UP at 3", x.state(3, 1), 3);
     });
+    test(9, "the RUN is that of the TEXT, though another was told of ahead", () -> {
+      CommitPrefixes x = fresh();
+      due("sent", x.sent(60), 12);
+      due("harm", x.harm(0), 0);
+      write(x, 0, 0, "sites 2;phases 3;down 0 3 60");
+      x.read(0);
+      due("sent", x.sent(59), 8);
+      due("harm", x.harm(0), 48);
+    });
     test(9, "the ROW stays as it is", () -> {
       CommitPrefixes x = fresh();
       write(x, 0, 0, "wait 2");
