@@ -174,6 +174,12 @@ public final class OutcomeBoundariesTest extends Sentence {
         dueByHand("sites 5;phases 3;wait 3;down 2 2 12", true, 1 << 29 | 0b111010000000000, 0));
     test(25, "30 to 59 less 30: 30 is bit 0 of part 1", () ->
         dueByHand("sites 2;phases 3;wait 2;down 2 3 47", true, 1 << 4, 1));
+    test(25, "30 to 59 less 30: 59 is bit 29 of part 1, 60 has none", () -> {
+      String text = "sites 5;phases 3;wait 2;down 1 2 54;down 5 3 29";
+      due("sent", of(text).sent(60), 65);
+      dueByHand(text, true, ALL - ((1 << 10) - 1), ALL);
+      dueByHand(text + ";lose 59", true, ALL - ((1 << 10) - 1), ALL >> 1);
+    });
     test(25, "no LOSSES: one that is a LOSS already has no bit", () -> {
       due("PRE to 2 harms", of("sites 2;phases 3;down 0 3 60").harm(0), 1 << 4 | 1 << 5);
       // PACK of 1 and the two PREs at 60 are left: it isn't ALIKE with or without them
