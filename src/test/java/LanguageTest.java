@@ -3,18 +3,13 @@ import java.lang.reflect.Constructor;
 import java.lang.reflect.Field;
 import java.lang.reflect.Method;
 import java.lang.reflect.Modifier;
-import java.nio.file.Files;
-import java.nio.file.Path;
 import java.util.ArrayList;
 import java.util.Arrays;
 import java.util.List;
 import java.util.Set;
 import java.util.TreeSet;
-import java.util.regex.Matcher;
-import java.util.regex.Pattern;
 
-// The rules of LANGUAGE.md that a text or the compiled class can show, and the room that calls take.
-// Run from the project's root, as .ci/run does.
+// The face, as the compiled class has it, and the room that calls take; RulesTest has the other rules.
 public final class LanguageTest {
   private static int wrong = 0;
 
@@ -35,42 +30,10 @@ public final class LanguageTest {
   }
 
   public static void main(String[] args) throws Exception {
-    String source = Files.readString(Path.of("src/main/java/CommitPrefixes.java"));
-    String code = source.replaceAll("(?s)/\\*.*?\\*/", "").replaceAll("//[^\n]*", "");
-    words(code);
-    lengths(source);
     face();
-    classes();
     room();
-    System.out.println(wrong == 0 ? "the language is kept" : wrong + " rules are broken");
+    System.out.println(wrong == 0 ? "the face and the room are kept" : wrong + " rules are broken");
     if (wrong != 0) System.exit(1);
-  }
-
-  private static void words(String code) {
-    String bare = code.replaceAll("\"[^\"\n]*\"", "\"\"");
-    for (String word : "throw throws try catch finally synchronized assert yield var transient volatile".split(" ")) {
-      rule(6, !Pattern.compile("\\b" + word + "\\b").matcher(bare).find(), "the word " + word);
-    }
-    for (String sign : new String[] {"->", "::", "@"}) rule(2, !bare.contains(sign), "the sign " + sign);
-    rule(4, !bare.contains("Exact("), "a function that ends in Exact");
-    rule(10, !Pattern.compile("\"\\s*\\+|\\+\\s*\"").matcher(bare).find(), "texts joined by +");
-    Matcher imports = Pattern.compile("import\\s+([\\w.*]+);").matcher(bare);
-    Set<String> allowed = Set.of("java.util.Arrays", "java.util.ArrayList", "java.util.List", "java.util.Iterator");
-    while (imports.find()) rule(4, allowed.contains(imports.group(1)), "import " + imports.group(1));
-    rule(5, !Pattern.compile("static\\s*\\{").matcher(bare).find(), "a static block");
-  }
-
-  // Methods of the outer class stand 4 in, those of the classes inside 8 in.
-  private static void lengths(String source) {
-    String[] lines = source.split("\n");
-    for (int i = 0; i < lines.length; i++) {
-      Matcher begins = Pattern.compile("^( {4}| {8})(?! )[^=;]*\\w+\\(([^)]*)\\) \\{$").matcher(lines[i]);
-      if (!begins.find()) continue;
-      int end = i;
-      while (end < lines.length && !lines[end].equals(begins.group(1) + "}")) end++;
-      rule(11, end - i < 60, "a long method: " + lines[i].trim());
-      rule(11, begins.group(2).split(",").length <= 7, "many parameters: " + lines[i].trim());
-    }
   }
 
   private static String signature(Method m) {
@@ -79,13 +42,17 @@ public final class LanguageTest {
     return m.getReturnType().getSimpleName() + " " + m.getName() + "(" + String.join(",", names) + ")";
   }
 
-  private static void face() {
+  private static void face() throws Exception {
     Class<?> c = CommitPrefixes.class;
     rule(1, Modifier.isFinal(c.getModifiers()) && Modifier.isPublic(c.getModifiers()), "public and final");
     Set<String> open = new TreeSet<>();
     Set<String> openNames = new TreeSet<>();
     for (Method m : c.getDeclaredMethods()) {
-      if (Modifier.isPublic(m.getModifiers())) { open.add(signature(m)); openNames.add(m.getName()); }
+      if (Modifier.isPublic(m.getModifiers())) {
+        open.add(signature(m));
+        openNames.add(m.getName());
+        rule(1, !Modifier.isStatic(m.getModifiers()) && m.getExceptionTypes().length == 0, "an object's call: " + m);
+      }
       else rule(1, Modifier.isPrivate(m.getModifiers()) || m.isSynthetic(), "not private: " + m);
     }
     rule(1, open.equals(FACE), "the face is " + open);
@@ -94,8 +61,12 @@ public final class LanguageTest {
       rule(1, none ? Modifier.isPublic(f.getModifiers()) : Modifier.isPrivate(f.getModifiers()) || f.isSynthetic(), "field " + f);
       rule(5, !Modifier.isStatic(f.getModifiers()) || Modifier.isFinal(f.getModifiers()), "field " + f);
     }
+    Field none = c.getDeclaredField("NONE");
+    int constant = Modifier.PUBLIC | Modifier.STATIC | Modifier.FINAL;
+    rule(1, none.getType() == int.class && none.getModifiers() == constant && none.getInt(null) == -1, "NONE is " + none);
+    rule(1, c.getPackageName().isEmpty(), "no package");
     Constructor<?>[] made = c.getDeclaredConstructors();
-    rule(1, made.length == 1 && made[0].getParameterCount() == 0, "one constructor");
+    rule(1, made.length == 1 && made[0].getParameterCount() == 0 && Modifier.isPublic(made[0].getModifiers()), "one constructor");
     List<Class<?>> all = new ArrayList<>(Arrays.asList(c.getDeclaredClasses()));
     all.add(c);
     for (Class<?> inside : all) {
@@ -103,20 +74,6 @@ public final class LanguageTest {
         boolean own = inside == c && Modifier.isPublic(m.getModifiers());
         rule(1, own || !openNames.contains(m.getName()), "a second " + m.getName() + " in " + inside);
       }
-    }
-  }
-
-  private static void classes() {
-    Class<?>[] inside = CommitPrefixes.class.getDeclaredClasses();
-    rule(11, inside.length <= 12, "classes: " + inside.length);
-    for (Class<?> c : inside) {
-      rule(2, Modifier.isStatic(c.getModifiers()), c + " is static");
-      int fields = 0;
-      for (Field f : c.getDeclaredFields()) {
-        if (!Modifier.isStatic(f.getModifiers())) fields++;
-        rule(5, !Modifier.isStatic(f.getModifiers()) || Modifier.isFinal(f.getModifiers()), "field " + f);
-      }
-      rule(11, fields <= 20, c + " has fields: " + fields);
     }
   }
 
