@@ -12,6 +12,7 @@ public final class RunBoundariesTest extends Sentence {
     coordinatorCounts();
     coordinatorDecides();
     coordinatorWaits();
+    coordinatorDoesNothing();
     asks();
     participantHears();
     participantWaits();
@@ -384,6 +385,50 @@ public final class RunBoundariesTest extends Sentence {
     });
   }
 
+  private static void coordinatorDoesNothing() {
+    test(RUN, "What isn't told does nothing: a PACK to one that is COMMITTED is no ACK", () -> {
+      // it recovers PRE and sends PRE again at 4, when the first PACK comes: the second finds it COMMITTED
+      CommitPrefixes x = of("sites 1;phases 3;down 0 3 4;lose 7");
+      dueMessages(x, 3, "5 1 0 3 0", "4 0 1 4 0", "6 0 1 4 0", "5 1 0 5 0", "8 1 0 5 1", "6 0 1 8 0", "8 1 0 9 0");
+      due("states", states(x, 0, 4, 10), "3333335");
+      due("log", log(x, 0), "1346");
+      due("sent", x.sent(60), 10);
+    });
+    test(RUN, "What isn't told does nothing: a YES to one that is ENDED", () -> {
+      CommitPrefixes x = of("sites 1;presume;down 0 1 2");
+      dueMessages(x, 1, "2 1 0 1 0", "7 0 1 2 0");
+      due("states", states(x, 0, 1, 4), "9555");
+      due("log", log(x, 0), "1");
+      due("sent", x.sent(60), 3);
+    });
+    test(RUN, "What isn't told does nothing: a YES to one that is ABORTED is no ACK", () -> {
+      CommitPrefixes x = of("sites 1;down 0 1 2;lose 3");
+      dueMessages(x, 1, "2 1 0 1 0", "7 0 1 2 0", "8 1 0 3 1", "7 0 1 6 0");
+      due("states", states(x, 0, 1, 8), "94444445");
+      due("log", log(x, 0), "156");
+    });
+    test(RUN, "What isn't told does nothing: a NO to one that is ENDED", () -> {
+      CommitPrefixes x = of("sites 2;presume;no 1;no 2");
+      dueMessages(x, 2, "3 1 0 1 0", "3 2 0 1 0", "7 0 1 2 0", "7 0 2 2 0");
+      due("sent", x.sent(60), 6);
+      due("log", log(x, 0), "1");
+    });
+    test(RUN, "What isn't told does nothing: a NO to one that is ABORTED is no ACK", () -> {
+      CommitPrefixes x = of("sites 2;no 1;no 2;lose 7");
+      dueMessages(x, 6, "8 1 0 3 0", "8 2 0 3 1", "7 0 2 6 0", "8 2 0 7 0");
+      due("states", states(x, 0, 4, 8), "44445");
+      due("sent", x.sent(60), 10);
+    });
+    test(RUN, "What isn't told does nothing: an ACK to one that is ENDED", () -> {
+      // 1 recovers READY and asks at 4; it hears COMMIT at 6 for its ASK and at 7 once more
+      CommitPrefixes x = of("sites 1;down 1 2 4");
+      dueMessages(x, 3, "9 1 0 4 0", "6 0 1 5 0", "8 1 0 6 0", "6 0 1 6 0", "8 1 0 7 0");
+      due("states", states(x, 0, 6, 9), "3555");
+      due("log", log(x, 0), "146");
+      due("sent", x.sent(60), 8);
+    });
+  }
+
   private static void asks() {
     test(RUN, "ASK: COMMITTED: sends COMMIT to who asked", () -> {
       CommitPrefixes x = of("sites 2;lose 4");
@@ -551,6 +596,12 @@ public final class RunBoundariesTest extends Sentence {
       due("sent", x.sent(60), 8);
       due("0", x.state(60, 0), 5);
     });
+    test(RUN, "To ANSWER: to COMMIT in ABORTED, though ABORT is PRESUMED", () -> {
+      CommitPrefixes x = of("sites 2;phases 3;presume;lose 4");
+      due("1 is ABORTED when COMMIT comes", states(x, 1, 4, 7), "1444");
+      dueMessages(x, 7, "6 0 1 6 0", "6 0 2 6 0", "8 1 0 7 0", "8 2 0 7 0");
+      dueLogs(x, "1346", "25", "234");
+    });
     test(RUN, "To ANSWER: to ABORT in ABORTED, unless it is PRESUMED", () -> {
       due("ACK", message(of("sites 1;no 1"), 3), "8 1 0 3 0");
       due("none", of("sites 1;no 1;presume").sent(60), 3);
@@ -598,6 +649,17 @@ public final class RunBoundariesTest extends Sentence {
       due("sent", x.sent(60), 4);
       due("DECIDED", x.decided(60, 0), 1);
     });
+    test(RUN, "nothing is counted then: no PACK", () -> {
+      // the PACK of 2 came at 4, that of 1 at 8; behind RECOVERING at 6 the second of 2 is lost
+      CommitPrefixes x = of("sites 2;phases 3;lose 6;down 0 5 6;lose 11");
+      dueMessages(x, 6, "5 1 0 3 1", "5 2 0 3 0", "4 0 1 6 0", "4 0 2 6 0", "5 1 0 7 0", "5 2 0 7 1");
+      due("states", states(x, 0, 4, 10), "2922223");
+    });
+    test(RUN, "nothing is counted then: no ACK of an ABORT", () -> {
+      CommitPrefixes x = of("sites 2;no 1;lose 6;down 0 5 6;lose 11");
+      dueMessages(x, 6, "8 1 0 3 1", "8 2 0 3 0", "7 0 1 6 0", "7 0 2 6 0", "8 1 0 7 0", "8 2 0 7 1", "7 0 2 10 0");
+      due("states", states(x, 0, 4, 12), "494444445");
+    });
     test(RUN, "nothing is counted then", () -> {
       // 2's ACK was counted at 4; lost is 1's, and 2's second one
       CommitPrefixes x = of("sites 2;lose 6;lose 11;down 0 5 7");
@@ -636,6 +698,12 @@ public final class RunBoundariesTest extends Sentence {
     test(RUN, "PARTICIPANT RECOVERS: PRE: is PRE, TIMER w", () -> {
       CommitPrefixes x = of("sites 1;phases 3;down 0 3 60;down 1 4 10");
       due("states", states(x, 1, 9, 14), "922223");
+    });
+    test(RUN, "PARTICIPANT RECOVERS: PRE: sends nothing", () -> {
+      CommitPrefixes x = of("sites 1;phases 3;down 1 4 6");
+      due("states", states(x, 1, 3, 9), "2992223");
+      due("sent", x.sent(7), 5);
+      dueMessages(x, 4, "6 0 1 4 2", "6 0 1 8 0", "8 1 0 9 0");
     });
     test(RUN, "PARTICIPANT RECOVERS: COMMIT: is that", () -> {
       CommitPrefixes x = of("sites 1;down 1 9 10");
