@@ -2,8 +2,8 @@ import java.nio.file.Files;
 import java.nio.file.Path;
 import java.util.Set;
 
-// LANGUAGE.md, rule by rule, as the compiler sees the class; and of each rule a small program that
-// breaks it, so that a rule that isn't looked at any more is seen, too.
+// The rules of LANGUAGE.md that the compiler's tree of the class can show (not rule 7, that no call throws);
+// and of each a small program that breaks it, so that a rule that isn't looked at any more is seen, too.
 // Run from the project's root, as .ci/run does; or with the path of another source.
 public final class RulesTest {
   private static int wrong = 0;
